@@ -58,6 +58,7 @@ public final class LawfulLots {
     private static final int WORD_AND = 24;
     private static final int WORD_NOT = 25;
     private static final int WORD_OLD = 26;
+    private static final int TIGHTNESS_OF_OR = 1;
     private static final int KIND_BITS = 5;
     private static final int KIND_MASK = 31;
 
@@ -79,6 +80,26 @@ public final class LawfulLots {
     private static final int SLOTS = 48;
     private static final int SETS = 256;
     private static final int SET_MASK = 255;
+
+    // What a text may go on with, for the Reader.
+    private static final int REFUSED = -1;
+    private static final int AT_TELL = 0;
+    private static final int AT_FIELD = 1;
+    private static final int AT_FROM = 2;
+    private static final int AT_LEAST = 3;
+    private static final int AT_TO = 4;
+    private static final int AT_GREATEST = 5;
+    private static final int AT_FIELD_END = 6;
+    private static final int AT_WEIGHT = 7;
+    private static final int AT_LITERAL = 8;
+    private static final int AT_UNIT = 9;
+    private static final int AT_OLD_NAME = 10;
+    private static final int BEHIND_UNIT = 11;
+
+    // Where in a tell an E stands: it is a share's, or to the left or the right of a comparing sign.
+    private static final int AMOUNT = 0;
+    private static final int LEFT = 1;
+    private static final int RIGHT = 2;
 
     private static final int FIELD_PLACES = 8;
     private static final int FIELD_MASK = 7;
@@ -142,8 +163,7 @@ public final class LawfulLots {
     }
 
     private void forgetLawful() {
-        bins.fresh = false;
-        bins.planned = false;
+        bins.forget();
         chains.fresh = false;
     }
 
@@ -220,15 +240,24 @@ public final class LawfulLots {
     }
 
     public int meets(int bin) {
-        return cross(bin, bin);
+        if (!chart.book.has(BIN, bin)) {
+            return NONE;
+        }
+        refreshBins();
+        return bins.meetingAll(1 << bin);
     }
 
     public int cross(int one, int other) {
         if (!chart.book.has(BIN, one) || !chart.book.has(BIN, other)) {
             return NONE;
         }
-        bins.refresh(chart);
+        refreshBins();
         return bins.meetingAll(1 << one | 1 << other);
+    }
+
+    private void refreshBins() {
+        chart.refreshBins();
+        bins.refresh(chart);
     }
 
     public int hits(int bin) {
@@ -240,17 +269,19 @@ public final class LawfulLots {
     }
 
     public int fill() {
+        refreshBins();
         bins.plan(chart, log);
         return bins.planSize();
     }
 
     public int fills(int i) {
+        refreshBins();
         bins.plan(chart, log);
         return bins.planMember(i);
     }
 
     public int best() {
-        bins.refresh(chart);
+        refreshBins();
         return bins.meetingMost(log.unmet(chart));
     }
 
@@ -258,7 +289,8 @@ public final class LawfulLots {
         if (!chart.book.has(BIN, bin)) {
             return NONE;
         }
-        bins.refresh(chart);
+        chart.refreshBins();
+        bins.refreshLowest(chart);
         return bins.lowest(bin);
     }
 
@@ -344,6 +376,9 @@ public final class LawfulLots {
             inputs = 1;
             codeSize = 0;
             Arrays.fill(told, 0);
+            Arrays.fill(begin, 0);
+            Arrays.fill(end, 0);
+            Arrays.fill(reach, NONE);
         }
 
         void addField(long name, int least, int most) {
@@ -371,8 +406,20 @@ public final class LawfulLots {
             return sort >= 0 && sort < told.length ? told[sort] : 0;
         }
 
+        void addTold(int sort) {
+            if (sort >= 0 && sort < told.length) {
+                told[sort]++;
+            }
+        }
+
         boolean has(int sort, int number) {
             return number >= 0 && number < toldOf(sort);
+        }
+
+        void setWeight(int soft, int pounds) {
+            if (soft >= 0 && soft < weight.length) {
+                weight[soft] = pounds;
+            }
         }
 
         void open(int slot) {
@@ -438,6 +485,12 @@ public final class LawfulLots {
         void spell(int input, int[] values) {
             for (int f = 0; f < fields && f < values.length; f++) {
                 values[f] = valueIn(input, f);
+            }
+        }
+
+        void spellFirst(int[] values) {
+            for (int f = 0; f < from.length && f < values.length; f++) {
+                values[f] = from[f];
             }
         }
 
@@ -572,31 +625,52 @@ public final class LawfulLots {
         }
     }
 
-    /** Reads a text by its grammar into a draft, or finds its FAULT. */
+    /** Reads a text, TOKEN by TOKEN, into a draft, or finds its FAULT. */
     private static final class Reader {
         private final Scanner scanner = new Scanner();
+        // Signs and words that wait for what is to their right, the tightest last. At each depth of brackets there
+        // are few, for a looser one lets all tighter ones out.
+        private final int[] waiting = new int[STACK_PLACES];
         Book draft = new Book();
         int faultPlace = NONE;
         private int fault = 0;
         // FAULTS of meaning count only when the whole text has none of SYNTAX and ROOM.
         private int meaningFault = 0;
         private int meaningPlace = 0;
-        private int taken = 0;
+        private int state = AT_TELL;
+        private int side = AMOUNT;
+        private int sort = LAW;
         private int slot = 0;
-        private boolean inNext = false;
+        private int waits = 0;
+        private int nested = 0;
+        private boolean crowded = false;
+        private long fieldName = 0;
+        private int fieldPlace = 0;
+        private int least = 0;
 
         int understand(byte[] text, int length) {
             fault = 0;
             faultPlace = NONE;
             meaningFault = 0;
-            taken = 0;
+            state = AT_TELL;
+            nested = 0;
+            crowded = false;
             draft.clear();
             scanner.begin(text, length);
-            boolean good = true;
-            for (int n = 0; n <= MOST_TOKENS && good && scanner.kind != END; n++) {
-                good = tell();
+            for (int taken = 0; taken <= MOST_TOKENS && fault == 0 && scanner.kind != END; taken++) {
+                state = goOn(scanner.kind);
+                if (state == REFUSED) {
+                    refuse(SYNTAX);
+                } else if (crowded || taken == MOST_TOKENS) {
+                    refuse(ROOM);
+                } else {
+                    scanner.advance();
+                }
             }
-            if (good && meaningFault != 0) {
+            if (fault == 0 && state != AT_TELL) {
+                refuse(SYNTAX);
+            }
+            if (fault == 0 && meaningFault != 0) {
                 fault = meaningFault;
                 faultPlace = meaningPlace;
             }
@@ -606,10 +680,9 @@ public final class LawfulLots {
             return fault;
         }
 
-        private boolean refuse(int number) {
+        private void refuse(int number) {
             fault = number;
             faultPlace = scanner.start;
-            return false;
         }
 
         private void blame(int number, int at) {
@@ -620,274 +693,292 @@ public final class LawfulLots {
             }
         }
 
-        /** Only for a TOKEN that fits: one that does not is a FAULT of SYNTAX even as the 401st. */
-        private boolean take() {
-            if (taken >= MOST_TOKENS) {
-                return refuse(ROOM);
-            }
-            taken++;
-            scanner.advance();
-            return true;
-        }
-
-        private boolean expect(int kind) {
-            return scanner.kind == kind ? take() : refuse(SYNTAX);
-        }
-
-        private boolean tell() {
-            switch (scanner.kind) {
-                case WORD_FIELD:
-                    return tellField();
-                case WORD_LAW:
-                    return tellSort(LAW);
-                case WORD_SOFT:
-                    return tellSort(SOFT);
-                case WORD_BIN:
-                    return tellSort(BIN);
-                case WORD_NEXT:
-                    return tellSort(NEXT);
-                case WORD_SHARE:
-                    return tellSort(SHARE);
+        private int goOn(int kind) {
+            switch (state) {
+                case AT_TELL:
+                    return beginTell(kind);
+                case AT_FIELD:
+                    fieldName = scanner.name;
+                    fieldPlace = scanner.start;
+                    return kind == NAME ? AT_FROM : REFUSED;
+                case AT_FROM:
+                    return kind == WORD_FROM ? AT_LEAST : REFUSED;
+                case AT_LEAST:
+                    least = scanner.number;
+                    return kind == INT ? AT_TO : REFUSED;
+                case AT_TO:
+                    return kind == WORD_TO ? AT_GREATEST : REFUSED;
+                case AT_GREATEST:
+                    return kind == INT ? endField() : REFUSED;
+                case AT_FIELD_END:
+                    return kind == SEMICOLON ? AT_TELL : REFUSED;
+                case AT_WEIGHT:
+                    return kind == INT ? weigh() : REFUSED;
+                case AT_OLD_NAME:
+                    return kind == NAME ? nameInCode(WORD_OLD) : REFUSED;
+                case BEHIND_UNIT:
+                    return goOnBehindUnit(kind);
                 default:
-                    return refuse(SYNTAX);
+                    return goOnAtUnit(kind);
             }
         }
 
-        private boolean tellField() {
-            if (draft.fields >= MOST_FIELDS) {
-                return refuse(ROOM);
+        private int beginTell(int kind) {
+            switch (kind) {
+                case WORD_FIELD:
+                    crowded = draft.fields >= MOST_FIELDS;
+                    return AT_FIELD;
+                case WORD_LAW:
+                    return beginSort(LAW, AT_LITERAL);
+                case WORD_SOFT:
+                    return beginSort(SOFT, AT_WEIGHT);
+                case WORD_BIN:
+                    return beginSort(BIN, AT_LITERAL);
+                case WORD_NEXT:
+                    return beginSort(NEXT, AT_LITERAL);
+                case WORD_SHARE:
+                    return beginSort(SHARE, AT_UNIT);
+                default:
+                    return REFUSED;
             }
-            if (!take()) {
-                return false;
+        }
+
+        private int beginSort(int begun, int next) {
+            int number = draft.toldOf(begun);
+            crowded = number >= MOST_OF_A_SORT;
+            if (!crowded) {
+                sort = begun;
+                side = begun == SHARE ? AMOUNT : LEFT;
+                slot = begun * MOST_OF_A_SORT + number;
+                waits = 0;
+                draft.open(slot);
+                draft.addTold(begun);
             }
-            long name = scanner.name;
-            int nameAt = scanner.start;
-            if (!expect(NAME) || !expect(WORD_FROM)) {
-                return false;
+            return next;
+        }
+
+        private int endField() {
+            if (draft.fieldNamed(fieldName) != NONE) {
+                blame(TWICE, fieldPlace);
             }
-            int least = scanner.number;
-            if (!expect(INT) || !expect(WORD_TO)) {
-                return false;
+            if (scanner.number < least) {
+                blame(WRONG, scanner.start);
             }
-            int most = scanner.number;
-            int mostAt = scanner.start;
-            if (!expect(INT)) {
-                return false;
-            }
-            if (draft.fieldNamed(name) != NONE) {
-                blame(TWICE, nameAt);
-            }
-            if (most < least) {
-                blame(WRONG, mostAt);
-            }
-            draft.addField(name, least, most);
+            draft.addField(fieldName, least, scanner.number);
             if (draft.inputs > MOST_INPUTS) {
-                blame(MANY, nameAt);
+                blame(MANY, fieldPlace);
             }
-            return expect(SEMICOLON);
+            return AT_FIELD_END;
         }
 
-        private boolean tellSort(int sort) {
-            int number = draft.toldOf(sort);
-            if (number >= MOST_OF_A_SORT) {
-                return refuse(ROOM);
-            }
-            if (!take()) {
-                return false;
-            }
-            draft.told[sort] = number + 1;
-            inNext = sort == NEXT;
-            openSlot(sort, number);
-            boolean good;
-            if (sort == SHARE) {
-                good = shareBody(number);
-            } else if (sort == SOFT) {
-                good = softBody(number);
-            } else {
-                good = condition();
-            }
-            return good && expect(SEMICOLON);
+        private int weigh() {
+            draft.setWeight(draft.toldOf(SOFT) - 1, scanner.number);
+            return AT_LITERAL;
         }
 
-        private void openSlot(int sort, int number) {
-            slot = sort * MOST_OF_A_SORT + number;
-            draft.open(slot);
-        }
-
-        private boolean softBody(int number) {
-            if (number >= 0 && number < draft.weight.length) {
-                draft.weight[number] = scanner.number;
-            }
-            return expect(INT) && condition();
-        }
-
-        private boolean shareBody(int number) {
-            if (!expression(0)) {
-                return false;
-            }
-            openSlot(SHARE_IF, number);
-            if (scanner.kind != WORD_IF) {
-                return true;
-            }
-            return take() && condition();
-        }
-
-        private boolean condition() {
-            boolean good = allOf();
-            for (int n = 0; n < MOST_TOKENS && good && scanner.kind == WORD_OR; n++) {
-                good = take() && allOf();
-                draft.emit(slot, WORD_OR, 0);
-            }
-            return good;
-        }
-
-        private boolean allOf() {
-            boolean good = literal();
-            for (int n = 0; n < MOST_TOKENS && good && scanner.kind == WORD_AND; n++) {
-                good = take() && literal();
-                draft.emit(slot, WORD_AND, 0);
-            }
-            return good;
-        }
-
-        private boolean literal() {
-            boolean turned = false;
-            for (int n = 0; n < MOST_TOKENS && scanner.kind == WORD_NOT; n++) {
-                turned = !turned;
-                if (!take()) {
-                    return false;
-                }
-            }
-            boolean good = comparison();
-            if (turned) {
-                draft.emit(slot, WORD_NOT, 0);
-            }
-            return good;
-        }
-
-        private boolean comparison() {
-            if (!expression(0)) {
-                return false;
-            }
-            int kind = scanner.kind;
-            if (kind != EQUAL && kind != UNEQUAL && kind != BELOW && kind != AT_MOST) {
-                return refuse(SYNTAX);
-            }
-            boolean good = take() && expression(0);
-            draft.emit(slot, kind, 0);
-            return good;
-        }
-
-        private boolean expression(int depth) {
-            boolean good = part(depth);
-            for (int n = 0; n < MOST_TOKENS && good; n++) {
-                int kind = scanner.kind;
-                if (kind != PLUS && kind != MINUS) {
-                    return true;
-                }
-                good = take() && part(depth);
-                draft.emit(slot, kind, 0);
-            }
-            return good;
-        }
-
-        private boolean part(int depth) {
-            boolean good = unit(depth);
-            for (int n = 0; n < MOST_TOKENS && good && scanner.kind == TIMES; n++) {
-                good = take() && unit(depth);
-                draft.emit(slot, TIMES, 0);
-            }
-            return good;
-        }
-
-        private boolean unit(int depth) {
-            switch (scanner.kind) {
+        private int goOnAtUnit(int kind) {
+            switch (kind) {
+                case WORD_NOT:
+                    return state == AT_LITERAL ? turnLiteral() : REFUSED;
                 case INT:
                     draft.emit(slot, INT, scanner.number);
-                    return take();
+                    return BEHIND_UNIT;
                 case NAME:
-                    return fieldName(NAME);
+                    return nameInCode(NAME);
                 case WORD_OLD:
-                    if (!inNext) {
+                    if (sort != NEXT) {
                         blame(WRONG, scanner.start);
                     }
-                    return take() && fieldName(WORD_OLD);
+                    return AT_OLD_NAME;
                 case OPEN:
-                    if (depth >= MOST_NESTED) {
-                        return refuse(ROOM);
-                    }
-                    return take() && expression(depth + 1) && expect(CLOSE);
+                    crowded = nested >= MOST_NESTED;
+                    nested++;
+                    await(OPEN);
+                    return AT_UNIT;
                 default:
-                    return refuse(SYNTAX);
+                    return REFUSED;
             }
         }
 
-        private boolean fieldName(int kind) {
-            if (scanner.kind == NAME) {
-                int field = draft.fieldNamed(scanner.name);
-                if (field == NONE) {
-                    blame(UNKNOWN, scanner.start);
-                }
-                draft.emit(slot, kind, Math.max(0, field));
+        /** Two 'not' in a row are none, so that a long row of them needs no room. */
+        private int turnLiteral() {
+            if (lastWaiting() == WORD_NOT) {
+                waits--;
+            } else {
+                await(WORD_NOT);
             }
-            return expect(NAME);
+            return AT_LITERAL;
+        }
+
+        private int nameInCode(int kind) {
+            int field = draft.fieldNamed(scanner.name);
+            if (field == NONE) {
+                blame(UNKNOWN, scanner.start);
+            }
+            draft.emit(slot, kind, Math.max(0, field));
+            return BEHIND_UNIT;
+        }
+
+        private int goOnBehindUnit(int kind) {
+            switch (kind) {
+                case PLUS:
+                case MINUS:
+                case TIMES:
+                    return join(kind, AT_UNIT);
+                case CLOSE:
+                    return nested > 0 ? closeBracket() : REFUSED;
+                default:
+                    return nested > 0 ? REFUSED : goOnBehindExpression(kind);
+            }
+        }
+
+        private int goOnBehindExpression(int kind) {
+            int from = side;
+            switch (kind) {
+                case EQUAL:
+                case UNEQUAL:
+                case BELOW:
+                case AT_MOST:
+                    side = RIGHT;
+                    return from == LEFT ? join(kind, AT_UNIT) : REFUSED;
+                case WORD_AND:
+                case WORD_OR:
+                    side = LEFT;
+                    return from == RIGHT ? join(kind, AT_LITERAL) : REFUSED;
+                case WORD_IF:
+                    side = LEFT;
+                    return from == AMOUNT ? beginShareCondition() : REFUSED;
+                case SEMICOLON:
+                    release(TIGHTNESS_OF_OR);
+                    return from != LEFT ? AT_TELL : REFUSED;
+                default:
+                    return REFUSED;
+            }
+        }
+
+        private int join(int kind, int next) {
+            release(tightness(kind));
+            await(kind);
+            return next;
+        }
+
+        private int closeBracket() {
+            release(TIGHTNESS_OF_OR);
+            waits--;
+            nested--;
+            return BEHIND_UNIT;
+        }
+
+        private int beginShareCondition() {
+            release(TIGHTNESS_OF_OR);
+            slot = SHARE_IF * MOST_OF_A_SORT + draft.toldOf(SHARE) - 1;
+            draft.open(slot);
+            return AT_LITERAL;
+        }
+
+        private void await(int kind) {
+            if (waits >= 0 && waits < waiting.length) {
+                waiting[waits] = kind;
+                waits++;
+            }
+        }
+
+        private int lastWaiting() {
+            return waits > 0 && waits <= waiting.length ? waiting[waits - 1] : END;
+        }
+
+        /** Those that wait and are at least so tight come into the code, up to an open bracket. */
+        private void release(int tightest) {
+            for (int n = waits; n > 0 && tightness(lastWaiting()) >= tightest; n--) {
+                draft.emit(slot, lastWaiting(), 0);
+                waits--;
+            }
+        }
+
+        private static int tightness(int kind) {
+            switch (kind) {
+                case TIMES:
+                    return 6;
+                case PLUS:
+                case MINUS:
+                    return 5;
+                case EQUAL:
+                case UNEQUAL:
+                case BELOW:
+                case AT_MOST:
+                    return 4;
+                case WORD_NOT:
+                    return 3;
+                case WORD_AND:
+                    return 2;
+                case WORD_OR:
+                    return TIGHTNESS_OF_OR;
+                default:
+                    return 0;
+            }
         }
     }
 
-    /** Runs the code of a slot. Indexes are masked to the arrays' lengths, which is cheaper than a test each. */
+    /** Runs the code of a slot. Its indexes are masked to the lengths of its arrays, which costs less than a test. */
     private static final class Machine {
         private final int[] stack = new int[STACK_PLACES];
 
-        boolean holds(Book book, int slot, int[] now, int[] old) {
-            return run(book, slot, now, old) != 0;
-        }
-
         int run(Book book, int slot, int[] now, int[] old) {
-            if (book.isEmpty(slot) || now.length != FIELD_PLACES || old.length != FIELD_PLACES) {
+            if (slot < 0 || slot >= SLOTS || now.length != FIELD_PLACES || old.length != FIELD_PLACES) {
                 return 0;
             }
             int[] code = book.code;
-            int end = Math.min(book.end[slot], code.length);
+            int end = book.end[slot];
             int top = 0;
             int last = 0;
-            for (int at = Math.max(0, book.begin[slot]); at < end; at++) {
-                int kind = code[at] & KIND_MASK;
-                if (kind == NAME || kind == INT || kind == WORD_OLD) {
-                    stack[top & STACK_MASK] = last;
-                    top++;
-                    int detail = code[at] >> KIND_BITS;
-                    last = kind == INT ? detail : kind == NAME ? now[detail & FIELD_MASK] : old[detail & FIELD_MASK];
-                } else if (kind == WORD_NOT) {
-                    last = 1 - last;
-                } else {
-                    top--;
-                    last = joined(kind, stack[top & STACK_MASK], last);
+            for (int at = book.begin[slot]; at >= 0 && at < end && at < code.length; at++) {
+                int word = code[at];
+                switch (word & KIND_MASK) {
+                    case INT:
+                        stack[top++ & STACK_MASK] = last;
+                        last = word >> KIND_BITS;
+                        break;
+                    case NAME:
+                        stack[top++ & STACK_MASK] = last;
+                        last = now[word >> KIND_BITS & FIELD_MASK];
+                        break;
+                    case WORD_OLD:
+                        stack[top++ & STACK_MASK] = last;
+                        last = old[word >> KIND_BITS & FIELD_MASK];
+                        break;
+                    case PLUS:
+                        last = stack[--top & STACK_MASK] + last;
+                        break;
+                    case MINUS:
+                        last = stack[--top & STACK_MASK] - last;
+                        break;
+                    case TIMES:
+                        last = stack[--top & STACK_MASK] * last;
+                        break;
+                    case EQUAL:
+                        last = stack[--top & STACK_MASK] == last ? 1 : 0;
+                        break;
+                    case UNEQUAL:
+                        last = stack[--top & STACK_MASK] != last ? 1 : 0;
+                        break;
+                    case BELOW:
+                        last = stack[--top & STACK_MASK] < last ? 1 : 0;
+                        break;
+                    case AT_MOST:
+                        last = stack[--top & STACK_MASK] <= last ? 1 : 0;
+                        break;
+                    case WORD_AND:
+                        last = stack[--top & STACK_MASK] & last;
+                        break;
+                    case WORD_OR:
+                        last = stack[--top & STACK_MASK] | last;
+                        break;
+                    default:
+                        last = 1 - last;
+                        break;
                 }
             }
             return last;
-        }
-
-        private static int joined(int kind, int left, int right) {
-            switch (kind) {
-                case PLUS:
-                    return left + right;
-                case MINUS:
-                    return left - right;
-                case TIMES:
-                    return left * right;
-                case EQUAL:
-                    return left == right ? 1 : 0;
-                case UNEQUAL:
-                    return left != right ? 1 : 0;
-                case BELOW:
-                    return left < right ? 1 : 0;
-                case AT_MOST:
-                    return left <= right ? 1 : 0;
-                case WORD_AND:
-                    return left & right;
-                default:
-                    return left | right;
-            }
         }
     }
 
@@ -990,11 +1081,11 @@ public final class LawfulLots {
             int inputs = Math.min(book.inputs, marks.length);
             int bits = 0;
             int changed = NONE;
-            book.spell(0, values);
+            book.spellFirst(values);
             for (int i = 0; i < inputs; i++) {
                 for (int slot = first; slot < behind; slot++) {
                     if (book.reachOf(slot) >= changed) {
-                        boolean holds = machine.holds(book, slot, values, values);
+                        boolean holds = machine.run(book, slot, values, values) != 0;
                         bits = holds ? bits | 1 << slot : bits & ~(1 << slot);
                     }
                 }
@@ -1096,7 +1187,7 @@ public final class LawfulLots {
             int reach = reachOfShares();
             int told = 1;
             int changed = NONE;
-            book.spell(0, values);
+            book.spellFirst(values);
             for (int i = 0; i < inputs; i++) {
                 if (reach >= changed) {
                     told = shareNow();
@@ -1118,7 +1209,7 @@ public final class LawfulLots {
         private int shareNow() {
             for (int n = 0; n < book.toldOf(SHARE); n++) {
                 int condition = SHARE_IF * MOST_OF_A_SORT + n;
-                if (book.isEmpty(condition) || machine.holds(book, condition, values, values)) {
+                if (book.isEmpty(condition) || machine.run(book, condition, values, values) != 0) {
                     int told = machine.run(book, SHARE * MOST_OF_A_SORT + n, values, values);
                     return Math.max(0, Math.min(MOST_SHARE, told));
                 }
@@ -1252,31 +1343,48 @@ public final class LawfulLots {
         private final int[] fewest = new int[SETS];
         private int sets = 1;
         private int target = 0;
-        boolean fresh = false;
+        private boolean fresh = false;
+        private boolean lowestFresh = false;
         boolean planned = false;
 
+        void forget() {
+            fresh = false;
+            lowestFresh = false;
+            planned = false;
+        }
+
         void refresh(Chart chart) {
-            chart.refreshBins();
             if (fresh) {
                 return;
             }
             sets = Math.min(SETS, 1 << chart.book.toldOf(BIN));
             Arrays.fill(meeting, 0);
             Arrays.fill(first, NONE);
-            Arrays.fill(lowestHeight, FAR);
-            Arrays.fill(lowestAt, NONE);
             for (int k = 0; k < chart.size; k++) {
                 int met = chart.binsOf(chart.inputOf(k)) & SET_MASK;
                 meeting[met]++;
                 if (first[met] == NONE) {
                     first[met] = k;
                 }
-                if (met != 0) {
-                    noteHeight(k, met, chart.book.heightOf(chart.inputOf(k)));
-                }
             }
             addSupersets(meeting);
             fresh = true;
+        }
+
+        void refreshLowest(Chart chart) {
+            if (lowestFresh) {
+                return;
+            }
+            Arrays.fill(lowestHeight, FAR);
+            Arrays.fill(lowestAt, NONE);
+            for (int k = 0; k < chart.size; k++) {
+                int input = chart.inputOf(k);
+                int met = chart.binsOf(input);
+                if (met != 0) {
+                    noteHeight(k, met, chart.book.heightOf(input));
+                }
+            }
+            lowestFresh = true;
         }
 
         private void noteHeight(int k, int met, int height) {
@@ -1310,7 +1418,6 @@ public final class LawfulLots {
         }
 
         void plan(Chart chart, Log log) {
-            refresh(chart);
             if (planned) {
                 return;
             }
@@ -1415,7 +1522,7 @@ public final class LawfulLots {
 
         private boolean allNextsHold(Book book) {
             for (int n = 0; n < book.toldOf(NEXT); n++) {
-                if (!machine.holds(book, NEXT * MOST_OF_A_SORT + n, now, old)) {
+                if (machine.run(book, NEXT * MOST_OF_A_SORT + n, now, old) == 0) {
                     return false;
                 }
             }
