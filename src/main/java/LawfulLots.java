@@ -41,7 +41,7 @@ public final class LawfulLots {
     private static final int EQUAL = 8;
     private static final int UNEQUAL = 9;
     private static final int BELOW = 10;
-    private static final int AT_MOST = 11;
+    private static final int NOT_ABOVE = 11;
     private static final int OPEN = 12;
     private static final int CLOSE = 13;
     private static final int FIRST_WORD = 14;
@@ -81,7 +81,7 @@ public final class LawfulLots {
     private static final int SETS = 256;
     private static final int SET_MASK = 255;
 
-    // What a text may go on with, for the Reader.
+    // What the Reader waits for.
     private static final int REFUSED = -1;
     private static final int AT_TELL = 0;
     private static final int AT_FIELD = 1;
@@ -437,8 +437,8 @@ public final class LawfulLots {
             code[codeSize] = detail << KIND_BITS | kind;
             codeSize++;
             end[slot] = codeSize;
-            if (kind == NAME || kind == WORD_OLD) {
-                reach[slot] = Math.max(reach[slot], detail);
+            if ((kind == NAME || kind == WORD_OLD) && detail > reach[slot]) {
+                reach[slot] = detail;
             }
         }
 
@@ -458,34 +458,32 @@ public final class LawfulLots {
             }
         }
 
-        /** How far above its from a FIELD's value is in an INPUT. */
-        int heightIn(int input, int field) {
-            if (field < 0 || field >= fields || field >= MOST_FIELDS) {
-                return 0;
-            }
-            int span = to[field] - from[field] + 1;
-            return stride[field] > 0 && span > 0 ? input / stride[field] % span : 0;
-        }
-
-        int heightOf(int input) {
-            int height = 0;
-            for (int f = 0; f < fields; f++) {
-                height += heightIn(input, f);
-            }
-            return height;
-        }
-
         int valueIn(int input, int field) {
             if (field < 0 || field >= fields || field >= MOST_FIELDS) {
                 return NONE;
             }
-            return from[field] + heightIn(input, field);
+            int span = to[field] - from[field] + 1;
+            return from[field] + (stride[field] > 0 && span > 0 ? input / stride[field] % span : 0);
         }
 
         void spell(int input, int[] values) {
             for (int f = 0; f < fields && f < values.length; f++) {
                 values[f] = valueIn(input, f);
             }
+        }
+
+        /** The sum of an INPUT's values, each less its from. */
+        int heightOf(int input) {
+            int height = 0;
+            int rest = input;
+            for (int f = Math.min(fields, MOST_FIELDS) - 1; f >= 0; f--) {
+                int span = to[f] - from[f] + 1;
+                if (span > 0) {
+                    height += rest % span;
+                    rest /= span;
+                }
+            }
+            return height;
         }
 
         void spellFirst(int[] values) {
@@ -496,7 +494,7 @@ public final class LawfulLots {
 
         /** Goes on to the INPUT behind: the first FIELD that changes. */
         int advance(int[] values) {
-            for (int f = Math.min(fields, values.length) - 1; f >= 0 && f < FIELD_PLACES; f--) {
+            for (int f = fields - 1; f >= 0 && f < MOST_FIELDS && f < values.length; f--) {
                 if (values[f] < to[f]) {
                     values[f]++;
                     return f;
@@ -585,7 +583,7 @@ public final class LawfulLots {
                 case '!':
                     return UNEQUAL;
                 case '<':
-                    return AT_MOST;
+                    return NOT_ABOVE;
                 default:
                     return BAD;
             }
@@ -628,8 +626,8 @@ public final class LawfulLots {
     /** Reads a text, TOKEN by TOKEN, into a draft, or finds its FAULT. */
     private static final class Reader {
         private final Scanner scanner = new Scanner();
-        // Signs and words that wait for what is to their right, the tightest last. At each depth of brackets there
-        // are few, for a looser one lets all tighter ones out.
+        // Signs and words that wait for what is to their right. There are few at each depth of brackets, for a looser
+        // one sends all tighter ones into the code.
         private final int[] waiting = new int[STACK_PLACES];
         Book draft = new Book();
         int faultPlace = NONE;
@@ -838,7 +836,7 @@ public final class LawfulLots {
                 case EQUAL:
                 case UNEQUAL:
                 case BELOW:
-                case AT_MOST:
+                case NOT_ABOVE:
                     side = RIGHT;
                     return from == LEFT ? join(kind, AT_UNIT) : REFUSED;
                 case WORD_AND:
@@ -905,7 +903,7 @@ public final class LawfulLots {
                 case EQUAL:
                 case UNEQUAL:
                 case BELOW:
-                case AT_MOST:
+                case NOT_ABOVE:
                     return 4;
                 case WORD_NOT:
                     return 3;
@@ -964,7 +962,7 @@ public final class LawfulLots {
                     case BELOW:
                         last = stack[--top & STACK_MASK] < last ? 1 : 0;
                         break;
-                    case AT_MOST:
+                    case NOT_ABOVE:
                         last = stack[--top & STACK_MASK] <= last ? 1 : 0;
                         break;
                     case WORD_AND:
@@ -988,6 +986,7 @@ public final class LawfulLots {
         private final int[] values = new int[FIELD_PLACES];
         // How many INPUTS there are of which all laws of a set hold.
         private final int[] standing = new int[SETS];
+        private final int[] softSeen = new int[SETS];
         // The sum of SHARES up to the end of each block of LAWFUL INPUTS.
         private final int[] blockEnds = new int[BLOCKS];
         // Rows by INPUT; they grow when a text needs it, for most texts are small and all objects share one room.
@@ -1034,15 +1033,8 @@ public final class LawfulLots {
             }
             markLaws();
             gather();
-            kept = 0;
-            int tried = 0;
-            for (int n = 0; n < book.toldOf(SOFT); n++) {
-                int soft = heaviest(tried);
-                tried |= 1 << soft;
-                if (narrow(1 << MOST_OF_A_SORT * SOFT + soft)) {
-                    kept |= 1 << soft;
-                }
-            }
+            keepSoft();
+            narrow();
             fresh = true;
         }
 
@@ -1079,12 +1071,13 @@ public final class LawfulLots {
                 return;
             }
             int inputs = Math.min(book.inputs, marks.length);
+            int[] reach = book.reach;
             int bits = 0;
             int changed = NONE;
             book.spellFirst(values);
             for (int i = 0; i < inputs; i++) {
-                for (int slot = first; slot < behind; slot++) {
-                    if (book.reachOf(slot) >= changed) {
+                for (int slot = first; slot < behind && slot < reach.length; slot++) {
+                    if (reach[slot] >= changed) {
                         boolean holds = machine.run(book, slot, values, values) != 0;
                         bits = holds ? bits | 1 << slot : bits & ~(1 << slot);
                     }
@@ -1103,15 +1096,39 @@ public final class LawfulLots {
             addSupersets(standing);
         }
 
+        /** Those of which the laws hold that are ON, and what sets of soft ones hold of one of them. */
         private void gather() {
             int inputs = Math.min(book.inputs, Math.min(marks.length, order.length));
             size = 0;
+            Arrays.fill(softSeen, 0);
             for (int i = 0; i < inputs; i++) {
                 if ((marks[i] & on) == on) {
                     order[size] = i;
                     size++;
+                    softSeen[marks[i] >> MOST_OF_A_SORT * SOFT & SET_MASK] = 1;
                 }
             }
+        }
+
+        private void keepSoft() {
+            kept = 0;
+            int tried = 0;
+            for (int n = 0; n < book.toldOf(SOFT); n++) {
+                int soft = 1 << heaviest(tried);
+                tried |= soft;
+                if (canKeep(kept | soft)) {
+                    kept |= soft;
+                }
+            }
+        }
+
+        private boolean canKeep(int wanted) {
+            for (int set = 0; set < SETS; set++) {
+                if ((set & wanted) == wanted && softSeen[set] != 0) {
+                    return true;
+                }
+            }
+            return false;
         }
 
         private int heaviest(int tried) {
@@ -1126,20 +1143,18 @@ public final class LawfulLots {
             return found;
         }
 
-        /** Leaves those with a mark LAWFUL, if there are any. */
-        private boolean narrow(int mark) {
+        /** Leaves those LAWFUL of which the soft ones hold that are KEPT. */
+        private void narrow() {
+            int needed = kept << MOST_OF_A_SORT * SOFT;
             int left = 0;
             for (int k = 0; k < size && k < order.length; k++) {
-                if ((marksOf(order[k]) & mark) != 0) {
-                    order[left] = order[k];
+                int input = order[k];
+                if ((marksOf(input) & needed) == needed) {
+                    order[left] = input;
                     left++;
                 }
             }
-            if (left == 0) {
-                return false;
-            }
             size = left;
-            return true;
         }
 
         int marksOf(int input) {

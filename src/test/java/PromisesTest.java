@@ -47,6 +47,8 @@ public final class PromisesTest {
         due("4: blanks", x.read(), 0);
         due("4: tape is empty", x.count(8), 0);
         due("3: back of nothing", x.back(1), -1);
+        x.feed(0, 0, 0, 0, 0);
+        due("3: back of all", x.back(20), 0);
         x.feed(0xff202020, 0x20202020, 0x20202020, 0x20202020, 0x20202020);
         due("2: the highest byte first", x.read(), 1);
         due("5: place", x.place(), 0);
@@ -290,6 +292,8 @@ public final class PromisesTest {
             due("20: one by one", z.fills(i), i);
         }
         due("20: no ninth", z.fills(8), -1);
+        LawfulLots v = Texts.lotsOf("field a from 0 to 3; bin a == 3; bin a == 1; bin a == 2;");
+        due("21: the first of alike ones that meet other bins", v.best(), 1);
         LawfulLots w = Texts.lotsOf("law 1 == 2; bin 1 == 1;");
         due("19: all DEAD", w.fill(), 0);
         due("20: all DEAD", w.fills(0), -1);
@@ -365,6 +369,9 @@ public final class PromisesTest {
         due("25: 64", y.rows(1), 64);
         y.turn(0, false);
         due("25: 65", y.rows(1), -1);
+        due("4: none LAWFUL", Texts.read(y, "field a from 0 to 2; law 1 == 2;"), 0);
+        due("25: none LAWFUL", y.rows(1), -1);
+        due("26: none LAWFUL", y.row(1, 0, 0), -1);
         due("4: dead ends", Texts.read(y, "field a from 0 to 2; next old a < a;"), 0);
         due("25: 012", y.rows(3), 1);
         due("25: none", y.rows(4), 0);

@@ -1,6 +1,6 @@
 import java.lang.management.ManagementFactory;
 
-/** What objects and calls make stays small, for all calls of a run live in one room; and none of them takes long. */
+/** What objects and calls make stays small, for all calls of a run live in one room. */
 public final class RoomTest {
     private static final Checks CHECKS = new Checks();
     private static final com.sun.management.ThreadMXBean THREADS =
