@@ -715,7 +715,7 @@ public final class LawfulLots {
                 case AT_OLD_NAME:
                     return kind == NAME ? nameInCode(WORD_OLD) : REFUSED;
                 case BEHIND_UNIT:
-                    return goOnBehindUnit(kind);
+                    return nested > 0 ? goOnInBrackets(kind) : goOnBehindExpression(kind);
                 default:
                     return goOnAtUnit(kind);
             }
@@ -817,22 +817,26 @@ public final class LawfulLots {
             return BEHIND_UNIT;
         }
 
-        private int goOnBehindUnit(int kind) {
+        private int goOnInBrackets(int kind) {
             switch (kind) {
                 case PLUS:
                 case MINUS:
                 case TIMES:
                     return join(kind, AT_UNIT);
                 case CLOSE:
-                    return nested > 0 ? closeBracket() : REFUSED;
+                    return closeBracket();
                 default:
-                    return nested > 0 ? REFUSED : goOnBehindExpression(kind);
+                    return REFUSED;
             }
         }
 
         private int goOnBehindExpression(int kind) {
             int from = side;
             switch (kind) {
+                case PLUS:
+                case MINUS:
+                case TIMES:
+                    return join(kind, AT_UNIT);
                 case EQUAL:
                 case UNEQUAL:
                 case BELOW:
@@ -1093,7 +1097,7 @@ public final class LawfulLots {
             for (int i = 0; i < inputs; i++) {
                 standing[marks[i] & SET_MASK]++;
             }
-            addSupersets(standing);
+            addSupersets(standing, book.toldOf(LAW));
         }
 
         /** Those of which the laws hold that are ON, and what sets of soft ones hold of one of them. */
@@ -1288,11 +1292,12 @@ public final class LawfulLots {
         }
     }
 
-    /** Turns counts of exact sets into counts of all sets that have at least those members. */
-    private static void addSupersets(int[] counts) {
-        for (int bit = 1; bit < SETS; bit <<= 1) {
-            for (int set = 0; set < counts.length; set++) {
-                if ((set & bit) == 0 && (set | bit) < counts.length) {
+    /** Turns counts of exact sets of so many members into counts of all sets that have at least those members. */
+    private static void addSupersets(int[] counts, int members) {
+        int sets = Math.min(counts.length, 1 << members);
+        for (int bit = 1; bit < sets && bit < SETS; bit <<= 1) {
+            for (int set = 0; set < sets; set++) {
+                if ((set & bit) == 0 && (set | bit) < sets) {
                     counts[set] += counts[set | bit];
                 }
             }
@@ -1350,13 +1355,15 @@ public final class LawfulLots {
     private static final class BinTable {
         // How many LAWFUL INPUTS meet all bins of a set.
         private final int[] meeting = new int[SETS];
-        // The first LAWFUL INPUT that meets the bins of a set and no others.
-        private final int[] first = new int[SETS];
+        // Each set of bins that is all that some LAWFUL INPUT meets, with the first such INPUT, in the order of these: the
+        // first set that will do has the least INPUT.
+        private final int[] seen = new int[SETS];
+        private final int[] firstOf = new int[SETS];
         private final int[] lowestHeight = new int[MOST_OF_A_SORT];
         private final int[] lowestAt = new int[MOST_OF_A_SORT];
         // How many LAWFUL INPUTS it takes to meet all bins of a set.
         private final int[] fewest = new int[SETS];
-        private int sets = 1;
+        private int seenSize = 0;
         private int target = 0;
         private boolean fresh = false;
         private boolean lowestFresh = false;
@@ -1372,17 +1379,18 @@ public final class LawfulLots {
             if (fresh) {
                 return;
             }
-            sets = Math.min(SETS, 1 << chart.book.toldOf(BIN));
             Arrays.fill(meeting, 0);
-            Arrays.fill(first, NONE);
+            seenSize = 0;
             for (int k = 0; k < chart.size; k++) {
                 int met = chart.binsOf(chart.inputOf(k)) & SET_MASK;
-                meeting[met]++;
-                if (first[met] == NONE) {
-                    first[met] = k;
+                if (meeting[met] == 0 && seenSize < SETS) {
+                    seen[seenSize] = met;
+                    firstOf[seenSize] = k;
+                    seenSize++;
                 }
+                meeting[met]++;
             }
-            addSupersets(meeting);
+            addSupersets(meeting, chart.book.toldOf(BIN));
             fresh = true;
         }
 
@@ -1422,10 +1430,10 @@ public final class LawfulLots {
         int meetingMost(int wanted) {
             int found = NONE;
             int most = NONE;
-            for (int set = 0; set < sets && set < first.length; set++) {
-                int met = Integer.bitCount(set & wanted);
-                if (first[set] != NONE && (met > most || met == most && first[set] < found)) {
-                    found = first[set];
+            for (int n = 0; n < seenSize && n < SETS; n++) {
+                int met = Integer.bitCount(seen[n] & wanted);
+                if (met > most) {
+                    found = firstOf[n];
                     most = met;
                 }
             }
@@ -1444,8 +1452,10 @@ public final class LawfulLots {
                 }
             }
             fewest[0] = 0;
-            for (int set = 1; set < sets && set < SETS; set++) {
-                fewest[set] = (set & ~target) == 0 ? fewestFor(set) : FAR;
+            for (int set = 1; set <= target && set < SETS; set++) {
+                if ((set & ~target) == 0) {
+                    fewest[set] = fewestFor(set);
+                }
             }
             planned = true;
         }
@@ -1454,9 +1464,9 @@ public final class LawfulLots {
         private int fewestFor(int set) {
             int firstBin = Integer.lowestOneBit(set);
             int found = FAR;
-            for (int met = 1; met < sets && met < SETS; met++) {
-                if ((met & firstBin) != 0 && first[met] != NONE) {
-                    found = Math.min(found, fewest[set & ~met & SET_MASK] + 1);
+            for (int n = 0; n < seenSize && n < SETS; n++) {
+                if ((seen[n] & firstBin) != 0) {
+                    found = Math.min(found, fewest[set & ~seen[n] & SET_MASK] + 1);
                 }
             }
             return found;
@@ -1475,23 +1485,23 @@ public final class LawfulLots {
                 return NONE;
             }
             int rest = target;
-            int chosen = 0;
+            int found = NONE;
             for (int step = 0; step <= n && step < MOST_OF_A_SORT; step++) {
-                chosen = leastStep(rest);
-                rest &= ~chosen;
+                int chosen = leastStep(rest);
+                found = firstOf[chosen];
+                rest &= ~seen[chosen];
             }
-            return first[chosen & SET_MASK];
+            return found;
         }
 
         private int leastStep(int rest) {
-            int chosen = 0;
-            for (int met = 1; met < sets && met < SETS; met++) {
-                boolean fits = first[met] != NONE && fewest[rest & ~met & SET_MASK] == fewest[rest & SET_MASK] - 1;
-                if (fits && (chosen == 0 || first[met] < first[chosen & SET_MASK])) {
-                    chosen = met;
+            int wanted = fewest[rest & SET_MASK] - 1;
+            for (int n = 0; n < seenSize && n < SETS; n++) {
+                if (fewest[rest & ~seen[n] & SET_MASK] == wanted) {
+                    return n;
                 }
             }
-            return chosen;
+            return 0;
         }
     }
 
